@@ -1288,6 +1288,7 @@ public final class NotBothInAugust {
         private final int[] glad = new int[WEEKS];
         private final int[] digits = new int[PEOPLE];
         private final int[] found = new int[PEOPLE];
+        private final int[] hopes = new int[PEOPLE + 1];
         private boolean isFair;
         private int most;
 
@@ -1436,15 +1437,36 @@ public final class NotBothInAugust {
                 found[one] = 0;
             }
             takeNone();
+            takeHopes();
             extend(0, 0, Integer.MAX_VALUE);
             for (int one = 0; one < PEOPLE; one++) {
                 digits[one] = found[one];
             }
         }
 
+        // What those from one on would have, were each alone: no plan gives them more.
+        private void takeHopes() {
+            hopes[shop.people] = 0;
+            for (int one = shop.people - 1; one >= 0; one--) {
+                int own = 0;
+                for (int at = one * DIGITS; at < (one + 1) * DIGITS; at++) {
+                    own = canBe[at] ? Math.max(own, gladness[at]) : own;
+                }
+                hopes[one] = hopes[one + 1] + own;
+            }
+        }
+
         private void extend(int one, int sum, int least) {
+            if (one > PEOPLE) {
+                return;
+            }
+            // Of like plans the first is wanted, so what can't be more than the one found is left alone.
+            int hope = isFair ? least : sum + hopes[one];
+            if (hope <= most) {
+                return;
+            }
             if (one >= shop.people || one >= PEOPLE) {
-                keepIfMore(isFair ? least : sum);
+                keep(hope);
                 return;
             }
             int closed = weeksClosedTo(one);
@@ -1458,10 +1480,7 @@ public final class NotBothInAugust {
             digits[one] = 0;
         }
 
-        private void keepIfMore(int value) {
-            if (value <= most || shop.people == 0) {
-                return;
-            }
+        private void keep(int value) {
             most = value;
             for (int one = 0; one < PEOPLE; one++) {
                 found[one] = digits[one];

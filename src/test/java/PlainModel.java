@@ -76,7 +76,6 @@ final class PlainModel {
         int value(Map<String, Integer> names) {
             switch (what) {
                 case "number": return number;
-                case "name-": return 0;
                 case "or": return left.value(names) != 0 | right.value(names) != 0 ? 1 : 0;
                 case "and": return left.value(names) != 0 & right.value(names) != 0 ? 1 : 0;
                 case "not": return left.value(names) == 0 ? 1 : 0;

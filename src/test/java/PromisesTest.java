@@ -426,6 +426,25 @@ public final class PromisesTest {
         dueFault("joys 1", "week;");
         dueFault("joys week ", "wished;");
         dueFault("joys ", "days;");
+        dueFault("", "toys 1;");
+        dueFault("joys 1; ", "warns 2;");
+        dueFault("joys 1; earns 2; ", "day 3;");
+        dueFault("joys 1; earns 2; may ", "hot 3;");
+        dueFault("joys 1 ", "ar 3;");
+        dueFault("joys 1 ", "end 3;");
+        dueFault("joys ", "meek;");
+        dueFault("joys ", "dished;");
+        dueFault("joys ", "lumber;");
+        dueFault("joys ", "pength;");
+        dueFault("joys ", "joints;");
+        dueFault("joys ", "sway;");
+        dueFault("joys ", "weekz;");
+        dueFault("joys ", "zweek;");
+        dueFault("joys ", "aweek;");
+        dueFault("joys ", "`;");
+        dueFault("joys ", "{;");
+        dueFault("joys ", "/;");
+        dueFault("joys ", ":;");
         dueFault("joys ", "weeks;");
         dueFault("joys ", "wee;");
         dueFault("joys ", "joys;");
@@ -751,8 +770,17 @@ public final class PromisesTest {
         Check.text(x, "joys 0; earns 1; may 1;");
         x.force(2);
         due("none ahead of a week of 0", x.best(0), 0);
-        Check.text(x, "joys 10; earns 1; may week = 2;");
+        Check.text(x, "joys 1; earns 1; may 1;");
         x.force(3);
+        x.set(1, 0, 0);
+        x.set(2, 0, 0);
+        due("1 is more than 0", x.best(0), 78);
+        x.set(5, 0, 0);
+        due("1 is more than 0", x.best(0), 8);
+        due("all", x.best(1), 1);
+        Check.text(x, "joys 10; earns 1; may week = 2;");
+        x.force(4);
+        x.set(5, 0, 0b10000000);
         x.set(2, 0, 0);
         x.set(1, 0, 0);
         due("only the week 2 may be had, 0 takes two", x.best(0), 3);
@@ -785,6 +813,18 @@ public final class PromisesTest {
         x.set(1, 0, 3);
         due("all are needed", x.best(2), 0);
         due("the least", x.best(3), 0);
+        NotBothInAugust y = new NotBothInAugust();
+        y.clerk(0, 0, 1);
+        y.set(1, 0, 0);
+        Check.text(y, "joys 1; earns 0; may 1;");
+        y.force(1);
+        y.set(5, 0, 0b1000);
+        due("a least of 1 is more than 0", y.best(2), 4);
+        due("the least", y.best(3), 1);
+        y.clerk(2, 2, 1);
+        due("the last of two has most", y.best(3), 1);
+        y.clerk(0, 0, 1);
+        due("the last of three has none", y.best(3), 0);
     }
 
     // ---- 13

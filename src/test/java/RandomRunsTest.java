@@ -1,6 +1,6 @@
 import java.util.Random;
 
-/** Runs of 512 calls, drawn by fixed seeds, of the program beside the plain model. */
+/** Runs of at most 512 calls, drawn by fixed seeds, of the program beside the plain model. */
 public final class RandomRunsTest {
     private static final Check check = new Check();
     private final Random random;
@@ -31,7 +31,8 @@ public final class RandomRunsTest {
                 set(5, i, random.nextInt(256));
             }
         }
-        while (calls < 512) {
+        // no step but the reading of a text takes more than a dozen calls, and that one looks itself
+        while (calls < 500) {
             step(tame ? 0 : 12);
         }
     }
@@ -244,6 +245,9 @@ public final class RandomRunsTest {
     // ---- texts
 
     private void textSome(int wild) {
+        if (calls > 300) {
+            return;
+        }
         String text = "joys " + either(0) + ";earns " + either(0) + "; may " + either(0) + " ;";
         if (random.nextInt(3) == 0) {
             int at = random.nextInt(text.length());
@@ -260,8 +264,6 @@ public final class RandomRunsTest {
             due("feed(" + letter + ")", x.feed(letter), y.feed(letter));
         }
         due("text() of " + y.tape, x.text(), y.text());
-        // calls of a run are few, so those that only feed don't count for much
-        calls -= text.length() * 3 / 4;
     }
 
     private String either(int deep) {
