@@ -47,7 +47,7 @@ public final class NotBothInAugust {
         if (!isPerson) {
             return BAD;
         }
-        return now.people < PEOPLE ? now.welcome(kind, number, weeks) : FULL;
+        return now.welcome(kind, number, weeks);
     }
 
     public int apart(int one, int other, int v) {
@@ -598,7 +598,7 @@ public final class NotBothInAugust {
             }
         }
 
-        /** There is room for one more: the caller has looked. */
+        /** The number of the one who comes; FULL. */
         int welcome(int kind, int number, int length) {
             if (people >= PEOPLE) {
                 return FULL;

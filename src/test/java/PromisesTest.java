@@ -33,6 +33,7 @@ public final class PromisesTest {
         planNeeds();
         yearPasses();
         bestPlans();
+        bestWishes();
         fairestPlans();
         turns();
         changes();
@@ -394,6 +395,27 @@ public final class PromisesTest {
         due("texts by a fault", x.count(4), 3);
         due("third", Check.text(x, "joys 1; earns 2; may 3;"), 3);
         due("the rule stays", x.count(6), 0);
+        textAfterFault();
+    }
+
+    // nothing of a text that was refused is left over for the next
+    private static void textAfterFault() {
+        NotBothInAugust x = new NotBothInAugust();
+        x.clerk(0, 0, 1);
+        x.set(5, 0, 255);
+        due("a fault", Check.text(x, "joys 5; earns 6; may 1 + 2 $;"), -127);
+        due("a text", Check.text(x, "joys 7; earns 8; may 0;"), 1);
+        x.force(1);
+        due("joys", x.told(0, 20), 7);
+        due("earns", x.told(0, 10), 8);
+        due("may", x.told(0, 30), 0);
+        due("a longer one", Check.text(x, "joys 1234;"), -110);
+        due("a shorter one", Check.text(x, "joys 1"), -106);
+        due("a longer one", Check.text(x, "joyswww"), -100);
+        due("a shorter one", Check.text(x, "joys"), -104);
+        due("open ones", Check.text(x, "joys (((((1"), -111);
+        due("open ones", Check.text(x, "joys -(-(not 1"), -114);
+        due("five again", Check.text(x, "joys (((((1))))); earns 1; may 1;"), 2);
     }
 
     private static void dueFault(String ahead, String rest) {
@@ -584,6 +606,8 @@ public final class PromisesTest {
         due("may 2 in 2", x.told(2, 32), 1);
         due("may 2 in 3", x.told(2, 33), 0);
         due("earns", x.told(0, 10), 0);
+        x.book(0, 0);
+        due("earns, booked in a week that is wished, also by others", x.told(0, 10), 0);
     }
 
     private static void textFull() {
@@ -787,6 +811,29 @@ public final class PromisesTest {
         due("all", x.best(1), 5);
         for (int what : new int[] {-1, 4, MIN, MAX}) {
             due("what " + what, x.best(what), -100000);
+        }
+    }
+
+    private static void bestWishes() {
+        check.part("12 BEST, each in the wished week");
+        NotBothInAugust x = new NotBothInAugust();
+        for (int one = 0; one < 3; one++) {
+            x.clerk(0, 0, 1);
+        }
+        for (int k = 0; k < 512; k++) {
+            int a = k / 64;
+            int b = k / 8 % 8;
+            int c = k % 8;
+            if (a != b && b != c && a != c) {
+                x.set(5, 0, 1 << a);
+                x.set(5, 1, 1 << b);
+                x.set(5, 2, 1 << c);
+                int digits = 100 * (a + 1) + 10 * (b + 1) + c + 1;
+                due("best", x.best(0), digits);
+                due("all", x.best(1), 30);
+                due("fairest", x.best(2), digits);
+                due("by turns", x.inTurn(0), digits);
+            }
         }
     }
 
