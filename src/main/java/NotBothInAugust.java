@@ -19,8 +19,9 @@ public final class NotBothInAugust {
     // What would be is asked of a second shop, so that the first is never touched by a question.
     private final Shop trial = new Shop();
     private boolean isKept;
-    private final Rules rules = new Rules();
-    private final Reader reader = new Reader(rules.textAt(0));
+    private final int[] tape = new int[TAPE];
+    private int fed;
+    private final Rules rules = new Rules(tape);
     private final Planner planner = new Planner(rules, now);
     private final Sheet[] sheets = new Sheet[SHEETS];
 
@@ -108,7 +109,12 @@ public final class NotBothInAugust {
         if (letter < 0 || letter > 255) {
             return BAD;
         }
-        return reader.takeByte(letter) ? reader.size : FULL;
+        if (fed >= tape.length) {
+            return FULL;
+        }
+        tape[fed] = letter;
+        fed++;
+        return fed;
     }
 
     public int text() {
@@ -116,8 +122,8 @@ public final class NotBothInAugust {
             return FULL;
         }
         // Room for the next text stands ready; it counts only once it was read without a fault.
-        int fault = reader.read(rules.textAt(rules.size));
-        reader.size = 0;
+        int fault = rules.textAt(rules.size).read(fed);
+        fed = 0;
         if (fault != NONE) {
             return FAULTY - fault;
         }
@@ -309,7 +315,7 @@ public final class NotBothInAugust {
             case 4:
                 return rules.size;
             case 5:
-                return reader.size;
+                return fed;
             case 6:
                 return now.rule;
             default:
@@ -790,7 +796,8 @@ public final class NotBothInAugust {
 
     /**
      * A text, worked off on a stack: numbers stand as they are, names and signs as numbers below 0,
-     * so that no byte of the tape needs more than one place.
+     * so that no byte of the tape needs more than one place. It is read from the tape one token ahead;
+     * at a fault the token becomes one that stands nowhere, by which every open reading ends.
      */
     private static final class Text {
         static final int JOYS = 0, EARNS = 1, MAY = 2;
@@ -798,18 +805,26 @@ public final class NotBothInAugust {
         static final int MINUS = -7, NOT = -8;
         static final int ADD = -9, LESS_BY = -10, TIMES = -11, BELOW = -12, SAME = -13, AND = -14, OR = -15;
         private static final int PARTS = 3;
+        // Tokens: a sign is its byte, a key that begins a part is A_KEY and the part's number.
+        private static final int A_KEY = 256, AN_OR = 259, AN_AND = 260, A_NOT = 261;
+        private static final int A_NAME = 262, A_NUMBER = 263, THE_END = 264, NO_TOKEN = 265;
+        private static final int MOST_OPEN = 5, MOST_NUMERALS = 4;
 
         private final int[] code = new int[TAPE];
         private final int[] ends = new int[PARTS];
         private int size;
         private int parts;
+        private final int[] tape;
+        private int fed;
+        private int next;
+        private int place;
+        private int token;
+        private int value;
+        private int open;
+        private int fault;
 
-        Text() {
-        }
-
-        void clear() {
-            size = 0;
-            parts = 0;
+        Text(int[] tape) {
+            this.tape = tape;
         }
 
         void add(int item) {
@@ -888,55 +903,23 @@ public final class NotBothInAugust {
                     return a != 0 || b != 0 ? 1 : 0;
             }
         }
-    }
 
-    /**
-     * Holds the tape and reads a text from it, one token ahead. At a fault the token becomes one that
-     * stands nowhere, by which every open reading ends.
-     */
-    private static final class Reader {
-        private static final int JOYS = 256, EARNS = 257, MAY = 258, OR = 259, AND = 260, NOT = 261;
-        private static final int NAME = 262, NUMBER = 263, END = 264, WRONG = 265;
-        private static final int MOST_OPEN = 5, MOST_NUMERALS = 4;
-
-        private final int[] tape = new int[TAPE];
-        int size;
-        private int next;
-        private int place;
-        private int token;
-        private int value;
-        private int open;
-        private int fault;
-        private Text into;
-
-        Reader(Text first) {
-            into = first;
-        }
-
-        boolean takeByte(int letter) {
-            if (size >= tape.length) {
-                return false;
-            }
-            tape[size] = letter;
-            size++;
-            return true;
-        }
-
-        /** Answers the place of the fault; NONE. */
-        int read(Text text) {
-            into = text;
-            into.clear();
+        /** Becomes what the first n bytes of the tape tell: the place of the fault; NONE. */
+        int read(int n) {
+            fed = Math.max(0, Math.min(n, tape.length));
+            size = 0;
+            parts = 0;
             next = 0;
             open = 0;
             fault = NONE;
             advance();
-            for (int key = JOYS; key <= MAY; key++) {
-                take(key);
+            for (int part = 0; part < PARTS; part++) {
+                take(A_KEY + part);
                 readEither();
                 take(';');
-                into.endPart();
+                endPart();
             }
-            if (token != END) {
+            if (token != THE_END) {
                 fail();
             }
             return fault;
@@ -944,49 +927,49 @@ public final class NotBothInAugust {
 
         private void readEither() {
             readBoth();
-            for (int n = 0; n < TAPE && token == OR; n++) {
+            for (int n = 0; n < TAPE && token == AN_OR; n++) {
                 advance();
                 readBoth();
-                into.add(Text.OR);
+                add(OR);
             }
         }
 
         private void readBoth() {
             readNot();
-            for (int n = 0; n < TAPE && token == AND; n++) {
+            for (int n = 0; n < TAPE && token == AN_AND; n++) {
                 advance();
                 readNot();
-                into.add(Text.AND);
+                add(AND);
             }
         }
 
         private void readNot() {
-            if (token != NOT) {
+            if (token != A_NOT) {
                 readComparison();
             } else if (openOne()) {
                 readNot();
                 open--;
-                into.add(Text.NOT);
+                add(NOT);
             }
         }
 
         private void readComparison() {
             readSum();
             if (token == '<' || token == '=') {
-                int sign = token == '<' ? Text.BELOW : Text.SAME;
+                int sign = token == '<' ? BELOW : SAME;
                 advance();
                 readSum();
-                into.add(sign);
+                add(sign);
             }
         }
 
         private void readSum() {
             readTerm();
             for (int n = 0; n < TAPE && (token == '+' || token == '-'); n++) {
-                int sign = token == '+' ? Text.ADD : Text.LESS_BY;
+                int sign = token == '+' ? ADD : LESS_BY;
                 advance();
                 readTerm();
-                into.add(sign);
+                add(sign);
             }
         }
 
@@ -995,22 +978,22 @@ public final class NotBothInAugust {
             for (int n = 0; n < TAPE && token == '*'; n++) {
                 advance();
                 readOne();
-                into.add(Text.TIMES);
+                add(TIMES);
             }
         }
 
         private void readOne() {
-            if (token == NUMBER) {
-                into.add(value);
+            if (token == A_NUMBER) {
+                add(value);
                 advance();
-            } else if (token == NAME) {
-                into.addName(value);
+            } else if (token == A_NAME) {
+                addName(value);
                 advance();
             } else if (token == '-') {
                 if (openOne()) {
                     readOne();
                     open--;
-                    into.add(Text.MINUS);
+                    add(MINUS);
                 }
             } else if (token == '(') {
                 if (openOne()) {
@@ -1046,16 +1029,16 @@ public final class NotBothInAugust {
             if (fault == NONE) {
                 fault = place;
             }
-            token = WRONG;
+            token = NO_TOKEN;
         }
 
         private void advance() {
-            while (next < size && isBlank(next)) {
+            while (next < fed && isBlank(next)) {
                 next++;
             }
             place = next;
-            if (next >= size) {
-                token = END;
+            if (next >= fed) {
+                token = THE_END;
             } else if (isLetter(next)) {
                 advanceOverWord();
             } else if (isNumeral(next)) {
@@ -1069,11 +1052,11 @@ public final class NotBothInAugust {
         }
 
         private void advanceOverWord() {
-            while (next < size && isLetter(next)) {
+            while (next < fed && isLetter(next)) {
                 next++;
             }
             token = key();
-            if (token == NAME) {
+            if (token == A_NAME) {
                 value = name();
                 if (value == NONE) {
                     fail();
@@ -1083,11 +1066,11 @@ public final class NotBothInAugust {
 
         private void advanceOverNumber() {
             value = 0;
-            while (next < size && isNumeral(next)) {
+            while (next < fed && isNumeral(next)) {
                 value = value * 10 + tape[next] - '0';
                 next++;
             }
-            token = NUMBER;
+            token = A_NUMBER;
             if (next - place > MOST_NUMERALS) {
                 fail();
             }
@@ -1095,40 +1078,40 @@ public final class NotBothInAugust {
 
         private int key() {
             if (isWord("joys")) {
-                return JOYS;
+                return A_KEY + JOYS;
             }
             if (isWord("earns")) {
-                return EARNS;
+                return A_KEY + EARNS;
             }
             if (isWord("may")) {
-                return MAY;
+                return A_KEY + MAY;
             }
             if (isWord("or")) {
-                return OR;
+                return AN_OR;
             }
             if (isWord("and")) {
-                return AND;
+                return AN_AND;
             }
-            return isWord("not") ? NOT : NAME;
+            return isWord("not") ? A_NOT : A_NAME;
         }
 
         private int name() {
             if (isWord("week")) {
-                return Text.WEEK;
+                return WEEK;
             }
             if (isWord("wished")) {
-                return Text.WISHED;
+                return WISHED;
             }
             if (isWord("number")) {
-                return Text.NUMBER;
+                return NUMBER;
             }
             if (isWord("length")) {
-                return Text.LENGTH;
+                return LENGTH;
             }
             if (isWord("points")) {
-                return Text.POINTS;
+                return POINTS;
             }
-            return isWord("away") ? Text.AWAY : NONE;
+            return isWord("away") ? AWAY : NONE;
         }
 
         private boolean isWord(String word) {
@@ -1173,9 +1156,9 @@ public final class NotBothInAugust {
         private final int[] names = new int[Text.NAMES];
         private final int[] stack = new int[TAPE];
 
-        Rules() {
+        Rules(int[] tape) {
             for (int text = 0; text < TEXTS; text++) {
-                texts[text] = new Text();
+                texts[text] = new Text(tape);
             }
             Text first = texts[0];
             first.add(10);

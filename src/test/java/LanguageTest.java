@@ -64,7 +64,7 @@ public final class LanguageTest {
     private static void members() {
         check.part("rules 1, 2, 5, 11");
         Class<?>[] inside = NotBothInAugust.class.getDeclaredClasses();
-        check.due("at most some twelve classes", inside.length <= 12 ? 1 : 0, 1);
+        check.due("at most some twelve classes", inside.length + 1 <= 12 ? 1 : 0, 1);
         TreeSet<String> publicNames = new TreeSet<>();
         for (String name : FACE.split(" ")) {
             publicNames.add(name.substring(0, name.indexOf('(')));
@@ -109,7 +109,7 @@ public final class LanguageTest {
             String line = made.group().strip();
             lines++;
             boolean isField = line.startsWith("private final ") || line.startsWith("final ") || line.startsWith("new Clerk()");
-            boolean isMade = line.equals("sheets[sheet] = new Sheet();") || line.equals("texts[text] = new Text();");
+            boolean isMade = line.equals("sheets[sheet] = new Sheet();") || line.equals("texts[text] = new Text(tape);");
             check.due("made later: " + line, isField || isMade ? 1 : 0, 1);
         }
         check.due("some are made", lines > 10 ? 1 : 0, 1);
