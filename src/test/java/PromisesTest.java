@@ -413,6 +413,8 @@ public final class PromisesTest {
         due("a shorter one", Check.text(x, "joys 1"), -106);
         due("a longer one", Check.text(x, "joyswww"), -100);
         due("a shorter one", Check.text(x, "joys"), -104);
+        due("a blank", Check.text(x, " "), -101);
+        due("nothing", x.text(), -100);
         due("open ones", Check.text(x, "joys (((((1"), -111);
         due("open ones", Check.text(x, "joys -(-(not 1"), -114);
         due("five again", Check.text(x, "joys (((((1))))); earns 1; may 1;"), 2);
@@ -442,6 +444,17 @@ public final class PromisesTest {
         dueFault("joys ", "00000; earns 2; may 3;");
         dueFault("joys 1; earns 2; may 3;", "joys");
         dueFault("joys 1; earns 2; may 3; ", ";");
+        dueFault("joys 1; earns 2; may 3; ", "4");
+        dueFault("joys 1; earns 2; may 3; ", "week");
+        dueFault("joys 1; earns 2; may 3; ", "or 4");
+        dueFault("joys 1; earns 2; ", "or 3;");
+        dueFault("joys 1; earns 2; ", "joys 3;");
+        dueFault("joys 1 ", "may 2;");
+        dueFault("joys 1 ", "earns 2;");
+        dueFault("joys 1; ", "and 2;");
+        dueFault("", "not 2;");
+        dueFault("", "7;");
+        dueFault("", "week;");
         dueFault("joys 1; earns 2; may 3; ", "$");
         dueFault("joys 1; ", "may 2; earns 3;");
         dueFault("joys 1 ", "2;");
