@@ -1262,6 +1262,8 @@ public final class NotBothInAugust {
      * of what each digit would mean for each of a shop's people.
      */
     private static final class Planner {
+        // Nobody has more of four weeks.
+        private static final int MORE_THAN_ANY = 100000;
         private final Rules rules;
         private Shop shop;
         private final int[] weeks = new int[PEOPLE * DIGITS];
@@ -1421,7 +1423,7 @@ public final class NotBothInAugust {
             }
             takeNone();
             takeHopes();
-            extend(0, 0, Integer.MAX_VALUE);
+            extend(0, 0, MORE_THAN_ANY);
             for (int one = 0; one < PEOPLE; one++) {
                 digits[one] = found[one];
             }
