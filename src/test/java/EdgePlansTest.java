@@ -659,6 +659,22 @@ public final class EdgePlansTest {
         x.set(5, 2, 3);
         due("so too, though 1 and 2 wish for one week", x.best(2), 712);
         due("least", x.best(3), 2);
+        // each of them is the one who has least
+        for (int n = 1; n <= 4; n++) {
+            for (int one = 0; one < n; one++) {
+                NotBothInAugust y = people(n);
+                y.set(1, 0, 0);
+                Check.rule(y, "joys 2*number;earns 1;may 1;");
+                for (int all = 0; all < n; all++) {
+                    y.set(3, all, all == one ? 2 : 5 + all);
+                }
+                due("the least of " + one, y.best(3), 2);
+                due("the first as fair", y.best(2), 1111 / (int) Math.pow(10, 4 - n));
+                y.set(3, one, 0);
+                due("none", y.best(3), 0);
+                due("none is away", y.best(2), 0);
+            }
+        }
     }
 
     // ---- IN TURN: "who has most POINTS first, of like ones by numbers"

@@ -113,7 +113,20 @@ public final class LanguageTest {
             check.due("made later: " + line, isField || isMade ? 1 : 0, 1);
         }
         check.due("some are made", lines > 10 ? 1 : 0, 1);
+        library(code);
         methodLengths(code);
+    }
+
+    // Of the library's classes only functions that rule 4 lists.
+    private static void library(String code) {
+        Matcher used = Pattern.compile("\\b(Integer|Long|Math|System|Arrays|List|ArrayList|String|Object|Character|Boolean)"
+            + "\\.(\\w+)(.)").matcher(code);
+        while (used.find()) {
+            boolean isFunction = used.group(3).equals("(") && !used.group(2).endsWith("Exact");
+            boolean isListed = List.of("Integer", "Long", "Math").contains(used.group(1))
+                || used.group(1).equals("System") && used.group(2).equals("arraycopy");
+            check.due("library: " + used.group(), isFunction && isListed ? 1 : 0, 1);
+        }
     }
 
     private static void methodLengths(String code) {
