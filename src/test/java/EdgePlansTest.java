@@ -34,6 +34,7 @@ public final class EdgePlansTest {
         turnsThatCanBeAdded();
         changes();
         changesOfLike();
+        changesOfMost();
         changesOfNone();
         bars();
         barsOfMany();
@@ -659,6 +660,7 @@ public final class EdgePlansTest {
         x.set(5, 2, 3);
         due("so too, though 1 and 2 wish for one week", x.best(2), 712);
         due("least", x.best(3), 2);
+        fairestNotBest();
         // each of them is the one who has least
         for (int n = 1; n <= 4; n++) {
             for (int one = 0; one < n; one++) {
@@ -675,6 +677,45 @@ public final class EdgePlansTest {
                 due("none is away", y.best(2), 0);
             }
         }
+    }
+
+    // Two who are apart, in the weeks 0 and 1 alone: what number 0 would have of them, and what number 1.
+    private static NotBothInAugust two(int of0in0, int of0in1, int of1in0, int of1in1) {
+        NotBothInAugust x = people(2);
+        x.set(1, 0, 0);
+        x.apart(0, 1, 1);
+        x.set(3, 1, 1);
+        x.set(5, 0, 3);
+        x.set(5, 1, 3);
+        due("rule", Check.rule(x, "joys (" + of0in0 + "+week*" + (of0in1 - of0in0) + ")*(1-number)+(" + of1in0 + "+week*"
+            + (of1in1 - of1in0) + ")*number;earns 1;may week<2;"), 1);
+        return x;
+    }
+
+    private static void duePlans(NotBothInAugust x, int... want) {
+        for (int what = 0; what < 4; what++) {
+            due("best(" + what + ")", x.best(what), want[what]);
+        }
+    }
+
+    // nothing but ALL makes a plan the best, nothing but the least the fairest: of like ones the first
+    private static void fairestNotBest() {
+        duePlans(two(40, 10, 12, 2), 12, 42, 21, 10);
+        duePlans(two(10, 40, 2, 12), 21, 42, 12, 10);
+        duePlans(two(40, 20, 22, 2), 12, 42, 21, 20);
+        duePlans(two(20, 40, 2, 22), 12, 42, 12, 20);
+        duePlans(two(10, 10, 40, 10), 21, 50, 12, 10);
+        duePlans(two(10, 40, 10, 10), 21, 50, 12, 10);
+        duePlans(two(40, 10, 10, 0), 10, 40, 21, 10);
+        duePlans(two(40, 10, 10, 1), 12, 41, 21, 10);
+        duePlans(two(40, 10, 10, -1), 10, 40, 21, 10);
+        duePlans(two(40, 0, 40, 0), 1, 40, 0, 0);
+        duePlans(two(40, -1, 41, -1), 1, 41, 0, 0);
+        duePlans(two(41, -1, 40, -1), 10, 41, 0, 0);
+        duePlans(two(0, 40, 0, 41), 2, 41, 0, 0);
+        duePlans(two(-5, -5, -5, -5), 0, 0, 0, 0);
+        duePlans(two(1, 1, 1, 1), 12, 2, 12, 1);
+        duePlans(two(0, 1, 1, 0), 21, 2, 21, 1);
     }
 
     // ---- IN TURN: "who has most POINTS first, of like ones by numbers"
@@ -828,6 +869,61 @@ public final class EdgePlansTest {
         due("2 and 3", x.change(0), 23);
         x.set(5, 2, 16);
         due("none any more", x.change(0), NONE);
+    }
+
+    // "by whose changing .. ALL be most": a two behind, though one ahead gains as well, and no more of those that can't be
+    private static void changesOfMost() {
+        check.part("CHANGE, the most");
+        int[] twos = {1, 2, 3, 12, 13, 23};
+        for (int less : twos) {
+            for (int more : twos) {
+                if (less != more) {
+                    NotBothInAugust x = people(4);
+                    x.set(1, 0, 0);
+                    due("rule", Check.rule(x, "joys 20+4*number;earns 1;may 1;"), 1);
+                    for (int all = 0; all < 4; all++) {
+                        x.book(all, 2 * all);
+                    }
+                    // one gains by the other's week: 12, or 10
+                    int a = more / 10;
+                    int b = more % 10;
+                    x.set(3, a, 1);
+                    x.set(5, a, 1 << 2 * b);
+                    int c = less / 10;
+                    int d = less % 10;
+                    if (c == a) {
+                        c = less % 10;
+                        d = less / 10;
+                    }
+                    x.set(5, c, 1 << 2 * d);
+                    int before = x.plan(1);
+                    boolean isBoth = c == b && d == a;
+                    due(more + " gains more than " + less, x.change(0), more);
+                    due("all then", x.change(1), before + 12 + (isBoth ? 10 : 0));
+                    x.set(1, 0, 4);
+                    due("neither holds", x.change(0), NONE);
+                    due("as now", x.change(1), before);
+                }
+            }
+        }
+        NotBothInAugust x = people(3);
+        x.set(1, 0, 0);
+        Check.rule(x, "joys 20+4*number;earns 1;may 1;");
+        x.set(3, 2, 1);
+        x.set(4, 2, 2);
+        x.apart(0, 2, 1);
+        x.book(0, 0);
+        x.book(1, 1);
+        x.book(2, 3);
+        x.set(5, 2, 3);
+        x.set(5, 1, 1);
+        due("2 would have both weeks 0 and 1 for 0's, then 1 and 2 for 1's; 1 for 0's gains less", x.change(0), 2);
+        due("all then", x.change(1), 10 + 10 + 48);
+        x.book(0, 2);
+        due("2 from week 2 on is glad of none; from week 1 on 0 stands in the way", x.change(0), NONE);
+        x.apart(0, 2, 0);
+        due("1 and 2 then", x.change(0), 12);
+        due("all then", x.change(1), 10 + 10 + 36);
     }
 
     private static void changesOfNone() {

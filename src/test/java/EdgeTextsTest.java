@@ -18,12 +18,16 @@ public final class EdgeTextsTest {
         blanks();
         numbers();
         words();
+        noOtherWords();
         tooEarly();
         firstFault();
         openFive();
         openTillTheEnd();
         wraps();
         truths();
+        chains();
+        fullOfSigns();
+        deepest();
         bounds();
         names();
         namesOfEarns();
@@ -127,6 +131,11 @@ public final class EdgeTextsTest {
         due("not read again", x.text(), -100);
         due("texts", x.count(4), 2);
         due("the rule stays", x.count(6), 0);
+        due("another rule", x.force(1), 0);
+        due("a fault", Check.text(x, "joys 1;earns 1;may"), -118);
+        due("the other rule stays", x.count(6), 1);
+        due("a text more", Check.text(x, "joys 2;earns 2;may 2;"), 2);
+        due("the other rule stays", x.count(6), 1);
         // nothing of a text that has a fault is left over for the next, nor is it still open
         String[] faults = {"joys (((((1", "joys -----", "joys not not not not not", "joys 5 + 6", "joys 5;earns 6;may 7",
             "joys 5;earns 6;may 7;8"};
@@ -287,6 +296,31 @@ public final class EdgeTextsTest {
             dueFault("joys 1 ", w + " 1" + REST);
             dueFault("joys ", w + " 1" + REST);
         }
+    }
+
+    // "NAMES are week wished number length points away; joys, earns, may, or, and, not are KEYS": no other is either
+    private static void noOtherWords() {
+        check.part("no other WORDS");
+        for (char a = 'a'; a <= 'z'; a++) {
+            dueNoName("" + a);
+            for (char b = 'a'; b <= 'z'; b++) {
+                dueNoName("" + a + b);
+                for (char c = 'a'; c <= 'z'; c++) {
+                    dueNoName("" + a + b + c);
+                }
+            }
+        }
+        String[] words = {"year", "needed", "people", "kind", "clerk", "parent", "single", "bride", "boss", "apprentice",
+            "wish", "wishes", "wishing", "point", "block", "key", "keys", "apart", "none", "glad", "earn", "joy", "wants",
+            "weeks", "rule", "text", "plan", "holds", "best", "turn", "true", "false", "then", "else", "booked", "others"};
+        for (String word : words) {
+            dueNoName(word);
+        }
+    }
+
+    private static void dueNoName(String word) {
+        boolean isNot = word.equals("not");
+        due("joys " + word, read("joys " + word), isNot ? -108 : -105);
     }
 
     // ---- "the text's size, if it ends too early"
@@ -487,6 +521,97 @@ public final class EdgeTextsTest {
         dueJoys("- - - 2", -2);
         dueJoys("7", 7);
         dueJoys("(7)", 7);
+    }
+
+    // ---- "E: AND { or AND }. AND: NOT { and NOT }"; "SUM: TERM { + or - TERM }. TERM: ONE { * ONE }": one, some, many
+
+    private static void chains() {
+        check.part("chains");
+        for (int n = 1; n <= 30; n++) {
+            for (int at : new int[] {0, n / 2, n - 1}) {
+                dueMay(chain("0", "or", n, at, "0"), 0);
+                dueMay(chain("0", "or", n, at, "3"), 1);
+                dueJoys(chain("0", "or", n, at, "3"), n == 1 ? 3 : 1);
+            }
+        }
+        for (int n = 1; n <= 25; n++) {
+            for (int at : new int[] {0, n / 2, n - 1}) {
+                dueMay(chain("2", "and", n, at, "2"), 1);
+                dueMay(chain("2", "and", n, at, "0"), 0);
+                dueJoys(chain("2", "and", n, at, "2"), n == 1 ? 2 : 1);
+            }
+        }
+        for (int n = 1; n <= 60; n++) {
+            for (int at : new int[] {0, n / 2, n - 1}) {
+                dueJoys(chain("1", "+", n, at, "7"), n + 6);
+                dueEarns(chain("1", "+", n, at, "7"), n + 6);
+                dueJoys(chain("1", "-", n, at, "7"), at == 0 ? 8 - n : -n - 4);
+                dueJoys(chain("1", "*", n, at, "7"), 7);
+                dueEarns(chain("1", "*", n, at, "7"), 7);
+            }
+        }
+        // each by turns, or within and, sum within sum
+        dueJoys("0 or 1 and 0 or 0 and 1 or 1 and 1 and 0 or 0", 0);
+        dueJoys("0 or 1 and 0 or 0 and 1 or 1 and 1 and 1 or 0", 1);
+        dueJoys("1 and (0 or 0 or 1) and not 0 and (1 or 0 or 0)", 1);
+        dueJoys("1 and (0 or 0 or 1) and not 0 and (0 or 0 or 0)", 0);
+        dueJoys("1 + 2 - 3 + 4 * 2 * 3 - 5 - 6 + 7", 20);
+        dueJoys("2 * (1 + 1 + 1) * 2 - (1 - 1 - 1) * 3 * 2", 18);
+        dueFault("joys 1 or 1 or 1 ", "1" + REST);
+        dueFault("joys 1 and 1 and 1 ", "1" + REST);
+        dueFault("joys 1 or 1 or 1 or ", REST);
+        dueFault("joys 1 and 1 and 1 and ", "or 1" + REST);
+        dueFault("joys 1 + 1 - 1 + ", REST);
+        dueFault("joys 1 * 1 * 1 * ", REST);
+    }
+
+    // n of them, one of which is another
+    private static String chain(String one, String sign, int n, int at, String another) {
+        StringBuilder e = new StringBuilder();
+        for (int i = 0; i < n; i++) {
+            e.append(i == 0 ? "" : sign).append(i == at ? another : one);
+        }
+        return e.toString();
+    }
+
+    // a tape that is full of numbers and signs alone, in each of the three
+    private static void fullOfSigns() {
+        check.part("160 bytes of signs");
+        String joys = "joys" + chain("1", "+", 71, 0, "9") + ";earns1;may1;";
+        due("bytes", joys.length(), 158);
+        NotBothInAugust x = by(joys);
+        due("79 of joys", x.told(0, 22), 79);
+        due("1 of earns", x.told(0, 10), 1);
+        due("1 of may", x.told(0, 32), 1);
+        String earns = "joys2;earns" + chain("1", "+", 71, 70, "9") + ";may1;";
+        due("2 of joys", by(earns).told(0, 22), 2);
+        due("79 of earns", by(earns).told(0, 10), 79);
+        due("1 of may", by(earns).told(0, 32), 1);
+        String may = "joys2;earns3;may" + chain("1", "-", 71, 0, "70") + ";";
+        due("2 of joys", by(may).told(0, 22), 2);
+        due("3 of earns", by(may).told(0, 10), 3);
+        due("0 of may", by(may).told(0, 32), 0);
+        due("-1 of may", by(may.replace("70", "69")).told(0, 32), 1);
+        due("one more", by(may.replace("70-1", "70")).told(0, 32), 1);
+    }
+
+    // in each of five ( all that can wait for what is behind does: or, and, <, + and *
+    private static void deepest() {
+        check.part("all that can wait");
+        String waits = "0or1and0<0+1*";
+        String e = (waits + "(").repeat(5) + waits + "week" + ")))))";
+        NotBothInAugust may = by("joys1;earns1;may " + e + ";");
+        NotBothInAugust joys = by("joys " + e + ";earns1;may1;");
+        for (int week = 0; week < 8; week++) {
+            due("may " + week, may.told(0, 30 + week), week == 0 ? 0 : 1);
+            due("joys " + week, joys.told(0, 20 + week), week == 0 ? 0 : 1);
+        }
+        String sums = "1+2*";
+        dueJoys((sums + "(").repeat(5) + sums + "week" + ")))))", 99);
+        dueJoys((sums + "(").repeat(2) + sums + "week" + "))", 7 + 8 * 2);
+        dueJoys(("9-" + "(").repeat(5) + "9-week" + ")))))", 2);
+        dueJoys(("9-" + "(").repeat(4) + "9-week" + "))))", 7);
+        dueEarns(("9-" + "(").repeat(5) + "9-length" + ")))))", 2);
     }
 
     // ---- "joys (-99 .. 99, else the bound), earns (0 .. 99, else the bound)"

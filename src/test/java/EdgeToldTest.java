@@ -13,8 +13,10 @@ public final class EdgeToldTest {
         kinds();
         numbers();
         wishes();
+        toldFarBeside();
         leastWishes();
         texts();
+        textsOfKinds();
         toldByNames();
         tellsEight();
         films();
@@ -138,6 +140,28 @@ public final class EdgeToldTest {
         dueTold("no least", x, 4, NONE);
     }
 
+    // what is told is no byte and no short: 256 or 65536 beside GLAD is otherwise, by wishes, numbers, kinds and texts
+    private static void toldFarBeside() {
+        check.part("TOLD far beside GLAD");
+        for (int beside : new int[] {256, -256, 65536, -65536, 1 << 30, MIN}) {
+            for (int week = 0; week < 8; week++) {
+                NotBothInAugust x = one(0, 0, 0b10101010);
+                x.film(0, 0);
+                x.sheet(1, 2, 8);
+                for (int w = 0; w < 8; w++) {
+                    x.cell(1, w, x.told(0, 20 + w) + (w == week ? beside : 0));
+                }
+                int[] want = {week, 0, 0, 0, NONE, 0};
+                // a single of number 0 is as glad as a clerk
+                int[] film = {NONE, 0b101, 1023, 1, 0b10101010, 1};
+                for (int what = 0; what <= 5; what++) {
+                    due("beside in " + week + ", " + what, x.tells(1, 0, what), want[what]);
+                    due("not beside, " + what, x.tells(0, 0, what), film[what]);
+                }
+            }
+        }
+    }
+
     private static void leastWishes() {
         check.part("WISHES of some WEEKS");
         // in the weeks below n joys tell 0, wished or not
@@ -194,6 +218,24 @@ public final class EdgeToldTest {
         dueTold("none tells 5 of a wished week", x, 5, 0);
         x.cell(0, 7, 10);
         dueTold("0, 3 and 5 tell 10 of it", x, 5, 0b101001);
+    }
+
+    // of each kind by its own GLAD: what an apprentice has is the same by any text, the others' isn't
+    private static void textsOfKinds() {
+        for (int kind = 0; kind <= 5; kind++) {
+            NotBothInAugust x = one(kind, 1, 0b00110011);
+            Check.text(x, "joys 20;earns 3;may 1;");
+            Check.text(x, "joys 10+0*week;earns 9;may 0;");
+            Check.text(x, "joys 10+week;earns 3;may 1;");
+            int[] alike = {0b0101, 0b0010, 0b0101, 0b1000};
+            for (int rule = 0; rule < 4; rule++) {
+                x.force(rule);
+                x.film(0, 0);
+                x.force(3 - rule);
+                dueTold("kind " + kind + " by " + rule, x, 5, kind == 5 ? 0b1111 : alike[rule]);
+                due("kind", x.told(0, 7), kind);
+            }
+        }
     }
 
     // a name tells of the one as one would be: number, wished; away of the others as they are
@@ -265,6 +307,30 @@ public final class EdgeToldTest {
         due("film of another", x.film(0, 1), 8);
         due("it tells of the other", x.tells(0, 1, 0), NONE);
         dueTold("it tells not of one", x, 0, 0);
+        filmsOfAll();
+    }
+
+    // all WEEKS, may they be had or not, booked or not; shorts, though there were 8 of another sort ahead
+    private static void filmsOfAll() {
+        for (int kind = 0; kind <= 5; kind++) {
+            for (int sort = 0; sort <= 2; sort++) {
+                for (int week = -1; week < 8; week++) {
+                    NotBothInAugust x = one(kind, 2, 0b01011010);
+                    Check.lay(x, 0, sort, 90, 91, 92, 93, 94, 95, 96, 97);
+                    x.book(0, week);
+                    Check.rule(x, "joys 11+7*week;earns 1;may 0;");
+                    due("film", x.film(0, 0), 8);
+                    due("shorts", x.clerks(0, 1, 0, 0), 0);
+                    for (int w = 0; w < 8; w++) {
+                        // what one is glad of is told by taking it from the row again
+                        x.cell(0, w, x.told(0, 20 + w) + 1);
+                        dueTold("otherwise in " + w, x, 0, w);
+                        x.cell(0, w, x.told(0, 20 + w));
+                        dueTold("none otherwise", x, 0, NONE);
+                    }
+                }
+            }
+        }
     }
 
     // ---- DRAWN: "(z >>> 9) % 256, z being z * 1103515245 + 12345 (an int; SEED at first) anew for each"
