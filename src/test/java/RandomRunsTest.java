@@ -268,12 +268,18 @@ public final class RandomRunsTest {
 
     private String either(int deep) {
         String e = both(deep);
-        return random.nextInt(6) == 0 ? e + " or " + both(deep) : e;
+        for (int n = 0; n < 4 && random.nextInt(4) == 0; n++) {
+            e = e + " or " + both(deep);
+        }
+        return e;
     }
 
     private String both(int deep) {
         String e = not(deep);
-        return random.nextInt(6) == 0 ? e + " and " + not(deep) : e;
+        for (int n = 0; n < 4 && random.nextInt(5) == 0; n++) {
+            e = e + " and " + not(deep);
+        }
+        return e;
     }
 
     private String not(int deep) {
@@ -294,7 +300,10 @@ public final class RandomRunsTest {
 
     private String term(int deep) {
         String e = one(deep);
-        return random.nextInt(4) == 0 ? e + "*" + one(deep) : e;
+        for (int n = 0; n < 3 && random.nextInt(4) == 0; n++) {
+            e = e + "*" + one(deep);
+        }
+        return e;
     }
 
     private String one(int deep) {
