@@ -37,6 +37,7 @@ public final class EdgePlansTest {
         changesOfMost();
         changesOfNone();
         bars();
+        barsOfSuchAsCanNotBe();
         barsOfMany();
         years();
         yearOfEach();
@@ -263,11 +264,15 @@ public final class EdgePlansTest {
         due("but no week is wrong", x.plan(2), NONE);
         due("away all the same", x.plan(16), 1);
         due("and glad of it", x.told(0, 9), 1);
+        due("all are glad of it", x.plan(1), 1);
+        due("booked", x.count(1), 1);
         due("booked again", x.book(0, 6), STATE);
         due("as it was", x.told(0, 8), 6);
         x.set(2, 0, 1);
         due("now a week is", x.plan(2), 6);
         due("nobody bars", x.bars(0, 6), NONE);
+        due("none can always be", x.book(0, NONE), 6);
+        due("it holds", x.plan(0), 1);
     }
 
     // ---- "NEEDED (0 .. 4; 2 at first): how many must be there in any WEEK (all, if there are fewer)"
@@ -984,6 +989,35 @@ public final class EdgePlansTest {
                     due("booked as before", x.told(other, 8), 3);
                 }
             }
+        }
+    }
+
+    // a PLAN does not hold either, if a BLOCK of another can not BE: who has it bars, whatever the week
+    private static void barsOfSuchAsCanNotBe() {
+        check.part("BARS of such as can not BE");
+        NotBothInAugust x = people(3);
+        x.set(1, 0, 0);
+        Check.rule(x, "joys 1;earns 1;may not wished;");
+        x.book(1, 4);
+        x.book(2, 5);
+        for (int week = 0; week < 8; week++) {
+            due("it holds anyhow", x.bars(0, week), NONE);
+        }
+        x.set(5, 1, 1 << 4);
+        for (int week = 0; week < 8; week++) {
+            due("1 can not be away in 4", x.bars(0, week), 1);
+            due("nor ahead of 2", x.bars(2, week), 1);
+            due("1's own is another then", x.bars(1, week), NONE);
+        }
+        x.set(5, 2, 1 << 5);
+        for (int week = 0; week < 8; week++) {
+            due("neither alone", x.bars(0, week), NONE);
+            due("2, if 1's own is another then", x.bars(1, week), week == 4 ? NONE : 2);
+            due("1, if 2's own is another then", x.bars(2, week), week == 5 ? NONE : 1);
+        }
+        x.set(5, 1, 0);
+        for (int week = 0; week < 8; week++) {
+            due("2 can not be away in 5", x.bars(0, week), 2);
         }
     }
 

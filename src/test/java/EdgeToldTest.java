@@ -484,16 +484,13 @@ public final class EdgeToldTest {
         check.part("21 image, 22 back: each that is kept");
         int[] at = {7, 1, 2, 3, 2, 9, 50};
         int[] then = {8, 4, 13, 4, 3, 6, 51};
-        for (int changed = -1; changed <= 6; changed++) {
-            NotBothInAugust x = lived(at);
-            due("image", x.image(), 2);
-            if (changed >= 0) {
-                x.set(changed, 1, then[changed]);
-                due("changed", x.told(1, changed), then[changed]);
-            }
-            due("back", x.back(), 2);
-            dueLived(x, at);
-        }
+        int[] least = {0, 0, 0, 0, 1, 0, 0};
+        int[] most = {999, 4, 15, 9, 4, 255, 999};
+        imageKeeps(at, then);
+        imageKeeps(at, least);
+        imageKeeps(at, most);
+        imageKeeps(least, most);
+        imageKeeps(most, least);
         NotBothInAugust x = lived(at);
         x.image();
         x.book(1, 4);
@@ -525,6 +522,19 @@ public final class EdgeToldTest {
         due("not apart", y.count(2), 0);
         due("not apart", y.apart(0, 1, 0), 0);
         due("not apart", y.apart(1, 0, 0), 0);
+    }
+
+    private static void imageKeeps(int[] at, int[] then) {
+        for (int changed = -1; changed <= 6; changed++) {
+            NotBothInAugust x = lived(at);
+            due("image", x.image(), 2);
+            if (changed >= 0) {
+                x.set(changed, 1, then[changed]);
+                due("changed", x.told(1, changed), then[changed]);
+            }
+            due("back", x.back(), 2);
+            dueLived(x, at);
+        }
     }
 
     private static NotBothInAugust lived(int[] at) {

@@ -12,6 +12,7 @@ public final class PromisesTest {
 
     public static void main(String[] args) {
         newObject();
+        objectsApart();
         setPeople();
         setShop();
         clerkComes();
@@ -77,6 +78,50 @@ public final class PromisesTest {
         due("STATE", NotBothInAugust.STATE, STATE);
         due("FULL", NotBothInAugust.FULL, FULL);
         due("NO", NotBothInAugust.NO, NO);
+    }
+
+    // no object has anything of another: people, tape, texts, image, sheets
+    private static void objectsApart() {
+        check.part("1 two objects");
+        NotBothInAugust x = Check.shop(2, 0);
+        NotBothInAugust y = new NotBothInAugust();
+        String ofX = "joys 1;earns 2;may 0;";
+        String ofY = "joys 7;earns 6;may 1;";
+        for (int i = 0; i < ofX.length(); i++) {
+            due("fed by turns", x.feed(ofX.charAt(i)), i + 1);
+            due("fed by turns", y.feed(ofY.charAt(i)), i + 1);
+        }
+        due("a text", x.text(), 1);
+        due("x's tape is empty", x.count(5), 0);
+        due("y's is not", y.count(5), ofY.length());
+        due("y has no text yet", y.count(4), 1);
+        due("y's own", y.text(), 1);
+        x.force(1);
+        due("y's rule", y.count(6), 0);
+        due("y has no people", y.count(0), 0);
+        due("y's first", y.clerk(0, 3, 2), 0);
+        due("x's two", x.count(0), 2);
+        y.set(5, 0, 1);
+        y.force(1);
+        due("x's joys", x.told(1, 20), 1 / 2);
+        due("y's joys", y.told(0, 20), 7);
+        due("x's may", x.told(1, 30), 0);
+        due("y's may", y.told(0, 30), 1);
+        due("y's image", y.image(), 1);
+        due("x has none", x.back(), STATE);
+        due("x's image", x.image(), 2);
+        due("y's second", y.clerk(1, 4, 1), 1);
+        due("y's third", y.clerk(1, 5, 1), 2);
+        due("y's one of then", y.back(), 1);
+        due("x's two of then", x.back(), 2);
+        due("x's sheet", x.sheet(0, 2, 8), 1);
+        due("y has none", y.cell(0, 0, 1), NOTHING);
+        due("y's sheet", y.sheet(0, 0, 3), 1);
+        due("x's is as it was", x.cell(0, 7, 1), 1);
+        due("x tells", x.tells(0, 1, 0), 7);
+        due("y's ends", y.cell(0, 3, 1), -12);
+        due("y's number", y.told(0, 3), 3);
+        due("x's number", x.told(0, 3), 0);
     }
 
     // ---- 2
