@@ -57,12 +57,13 @@ public final class ReadmeTest {
 
     private static long[] run(String code, int calls) throws Exception {
         long[] got = new long[calls];
-        Path dir = Files.createTempDirectory("readme");
+        String path = System.getProperty("java.class.path");
+        Path dir = Files.createTempDirectory(Path.of(path.split(File.pathSeparator)[0]), "readme");
         Path source = dir.resolve("Example.java");
         try {
             Files.writeString(source, code);
-            int failed = new ProcessBuilder("javac", "-cp", System.getProperty("java.class.path"), "-d", dir.toString(),
-                source.toString()).inheritIO().start().waitFor();
+            int failed = new ProcessBuilder("javac", "-cp", path, "-d", dir.toString(), source.toString()).inheritIO()
+                .start().waitFor();
             check.due("the examples compile", failed, 0);
             if (failed == 0) {
                 try (URLClassLoader loader = new URLClassLoader(new URL[] {dir.toUri().toURL()})) {
